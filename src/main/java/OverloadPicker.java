@@ -14,7 +14,6 @@ public final class OverloadPicker {
   private static final int LITERAL = -1;
   private static final int BOX_DISTANCE = 6;
   private static final int TYPE_BITS = 4, TYPE_MASK = 15;
-  private static final int GREATEST_LIST = 0xFFFF;
 
   private final int methodCapacity;
   private final int nodeCapacity;
@@ -61,7 +60,7 @@ public final class OverloadPicker {
       return REFUSED;
     }
     boolean varargs = (retFlags & VARARGS_FLAG) != 0;
-    if (varargs && params == 0 || isDeclared(name, params, varargs)) {
+    if ((varargs && params == 0) || isDeclared(name, params, varargs)) {
       return REFUSED;
     }
     int id = methods;
@@ -183,10 +182,6 @@ public final class OverloadPicker {
   }
 
   private static boolean isTypeList(int list) {
-    // A nonzero nibble past the fourth is a fifth type or follows a zero nibble: wrong either way.
-    if (list < 0 || list > GREATEST_LIST) {
-      return false;
-    }
     int length = listLength(list);
     for (int i = 0; i < length; i++) {
       int type = typeAt(list, i);
@@ -194,6 +189,7 @@ public final class OverloadPicker {
         return false;
       }
     }
+    // The signed shift leaves a negative list negative, so this turns it away too.
     return list >> (TYPE_BITS * length) == 0;
   }
 
@@ -386,6 +382,7 @@ public final class OverloadPicker {
     long sum = 0L;
     boolean failed = false;
     int argument = call + 1;
+    // A complete program holds every argument; the second bound only keeps the index in sight.
     for (int k = 0; k < callArgc[call] && argument < nodes; k++) {
       types |= resultType[argument] << (TYPE_BITS * k);
       sum += resultValue[argument];

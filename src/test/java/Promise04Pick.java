@@ -12,6 +12,7 @@ public final class Promise04Pick {
     variableArity();
     variableAritySpecificity();
     equalPlacesAreAmbiguous();
+    looksThroughAFullTable();
     touchesNothingElse();
     Check.end();
   }
@@ -124,6 +125,22 @@ public final class Promise04Pick {
     Check.picked(with(0x4, 20, 0x44, 20), 0, 0x444, AMBIGUOUS, 3);
     Check.picked(with(0x4, 20, 0x44, 20), 0, 0, 0, 3);
     Check.picked(with(0x5, 20, 0x55, 20, 0x4, 20), 0, 0x4, 2, 3);
+  }
+
+  private static void looksThroughAFullTable() {
+    OverloadPicker x = new OverloadPicker(16, 32);
+    for (int type = 1; type <= 14; type++) {
+      x.addMethod(0, type, 4, 0);
+    }
+    x.addMethod(0, 0xE, 20, 0);
+    x.addMethod(7, 0xEEEE, 4, 0);
+    for (int type = 1; type <= 14; type++) {
+      Check.picked(x, 0, type, type - 1, 1);
+    }
+    Check.picked(x, 0, 0x44, 14, 3);
+    Check.picked(x, 7, 0xEEEE, 15, 1);
+    Check.picked(x, 7, 0xE6E1, 15, 2);
+    Check.picked(x, 6, 0xEEEE, NO_MATCH, 0);
   }
 
   private static void touchesNothingElse() {
