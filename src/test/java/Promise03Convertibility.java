@@ -1,67 +1,68 @@
 public final class Promise03Convertibility {
-  // Row = from, column = to, types 1..14: '=' strict (and loose), 'x' loose only, '.' neither.
-  private static final String[] TABLE = {
-    "==.==.x.....xx",
-    ".=.==..x....xx",
-    "..===...x....x",
-    "...==....x..xx",
-    "....=.....x.xx",
-    ".....=.....x.x",
-    "xx.xx.=.....==",
-    ".x.xx..=....==",
-    "..xxx...=....=",
-    "...xx....=..==",
-    "....x.....=.==",
-    ".....x.....=.=",
-    "............==",
-    ".............=",
-  };
+  private static final int MIN = Integer.MIN_VALUE;
+  private static final int MAX = Integer.MAX_VALUE;
+  private static final OverloadPicker X = new OverloadPicker(2, 4);
 
   public static void main(String[] args) {
-    OverloadPicker x = new OverloadPicker(2, 4);
-    for (int from = 1; from <= 14; from++) {
-      for (int to = 1; to <= 14; to++) {
-        char kind = TABLE[from - 1].charAt(to - 1);
-        due(x, from, to, 1, kind == '=');
-        due(x, from, to, 2, kind != '.');
-        due(x, from, to, 3, kind != '.');
-      }
-    }
-    int[] edges = {Integer.MIN_VALUE, -1, 0, 15, 16, 20, Integer.MAX_VALUE};
-    for (int wrong : edges) {
-      for (int phase = 1; phase <= 3; phase++) {
-        for (int type = 1; type <= 14; type++) {
-          due(x, wrong, type, phase, false);
-          due(x, type, wrong, phase, false);
-        }
-        due(x, wrong, wrong, phase, false);
-      }
-    }
-    for (int phase : new int[] {Integer.MIN_VALUE, -1, 0, 4, 5, Integer.MAX_VALUE}) {
-      due(x, 4, 4, phase, false);
-      due(x, 4, 10, phase, false);
-      due(x, 0, 0, phase, false);
-    }
-    changesNothing();
+    Check.sentence("answers false if from or to is not in 1..14", Promise03Convertibility::wrongTypes);
+    Check.sentence("or if phase is not in 1..3", Promise03Convertibility::wrongPhases);
+    Check.sentence("for phase 1 it answers STRICT-compatible(from, to)", Promise03Convertibility::strict);
+    Check.sentence("for phase 2 or 3 it answers LOOSE-compatible(from, to)", Promise03Convertibility::loose);
+    Check.sentence("It changes nothing.", Promise03Convertibility::changesNothing);
     Check.end();
   }
 
-  private static void due(OverloadPicker x, int from, int to, int phase, boolean want) {
-    Check.due("convertible(" + from + ", " + to + ", " + phase + ")", x.convertible(from, to, phase), want);
+  private static void due(int from, int to, int phase, boolean want) {
+    Check.due("convertible(" + from + ", " + to + ", " + phase + ")", X.convertible(from, to, phase), want);
+  }
+
+  private static void wrongTypes() {
+    for (int wrong : new int[] {MIN, -14, -6, -1, 0, 15, 16, 20, MAX}) {
+      for (int phase = 1; phase <= 3; phase++) {
+        for (int type = 1; type <= 14; type++) {
+          due(wrong, type, phase, false);
+          due(type, wrong, phase, false);
+        }
+        due(wrong, wrong, phase, false);
+      }
+    }
+    for (int phase = 1; phase <= 3; phase++) {
+      due(1, 1, phase, true);
+      due(14, 14, phase, true);
+    }
+  }
+
+  private static void wrongPhases() {
+    for (int phase : new int[] {MIN, -1, 0, 4, 5, MAX}) {
+      for (int type = 1; type <= 14; type++) {
+        due(type, type, phase, false);
+        due(type, 14, phase, false);
+      }
+      due(0, 0, phase, false);
+    }
+  }
+
+  private static void strict() {
+    for (int from = 1; from <= 14; from++) {
+      for (int to = 1; to <= 14; to++) {
+        due(from, to, 1, TypeTable.strict(from, to));
+      }
+    }
+  }
+
+  private static void loose() {
+    for (int from = 1; from <= 14; from++) {
+      for (int to = 1; to <= 14; to++) {
+        due(from, to, 2, TypeTable.loose(from, to));
+        due(from, to, 3, TypeTable.loose(from, to));
+      }
+    }
   }
 
   private static void changesNothing() {
-    OverloadPicker x = new OverloadPicker(2, 4);
-    x.addMethod(0, 4, 4, 0);
-    x.pick(0, 4);
-    x.addLiteral(4, 9);
-    x.resolve();
-    due(x, 4, 10, 2, true);
-    due(x, 4, 10, 3, true);
-    due(x, 4, 15, 3, false);
-    Check.due("lastPhase()", x.lastPhase(), 1);
-    Check.due("methodCount()", x.methodCount(), 1);
-    Check.program(x, 1, 0);
-    Check.node(x, 0, OverloadPicker.OK, -1, 4, 0, 9L);
+    States.neverChanged("convertible(4, 10, 3)", x -> x.convertible(4, 10, 3));
+    States.neverChanged("convertible(4, 10, 1)", x -> x.convertible(4, 10, 1));
+    States.neverChanged("convertible(0, 15, 2)", x -> x.convertible(0, 15, 2));
+    States.neverChanged("convertible(4, 4, 0)", x -> x.convertible(4, 4, 0));
   }
 }

@@ -2,21 +2,36 @@ public final class Promise04Pick {
   private static final int REFUSED = OverloadPicker.REFUSED;
   private static final int NO_MATCH = OverloadPicker.NO_MATCH;
   private static final int AMBIGUOUS = OverloadPicker.AMBIGUOUS;
+  private static final int MIN = Integer.MIN_VALUE;
+  private static final int MAX = Integer.MAX_VALUE;
 
   public static void main(String[] args) {
-    refusesWrongCalls();
-    findsNothing();
-    earliestPhaseDecides();
-    mostSpecificWins();
-    needsOneThatBeatsAll();
-    variableArity();
-    variableAritySpecificity();
-    equalPlacesAreAmbiguous();
-    looksThroughAFullTable();
-    touchesNothingElse();
+    Check.sentence("The list may hold 0..4 types.", Promise04Pick::upToFourTypes);
+    Check.sentence("If name is not in 0..7 [..] it answers REFUSED, and lastPhase() is unchanged.", Promise04Pick::wrongName);
+    Check.sentence("If [..] args is not a valid encoding, it answers REFUSED, and lastPhase() is unchanged.",
+        Promise04Pick::wrongArgs);
+    Check.sentence("Otherwise it applies RESOLUTION to all methods currently stored.", Promise04Pick::allMethodsOfNow);
+    Check.sentence("Only methods whose name equals name can be applicable.", Promise04Pick::onlyThatName);
+    Check.sentence("If a method is chosen, it answers that method's id.", Promise04Pick::answersTheId);
+    Check.sentence("Otherwise it answers NO_MATCH or AMBIGUOUS.", Promise04Pick::noMatchOrAmbiguous);
+    Check.sentence("It sets lastPhase() to the deciding phase: 0 for NO_MATCH, and 1, 2 or 3 otherwise.",
+        Promise04Pick::setsLastPhase);
+    Check.sentence("It touches nothing else. The methods and the program stay as they were, including every node result and"
+        + " whether the program is resolved.", Promise04Pick::touchesNothingElse);
+    Check.sentence("It answers AMBIGUOUS exactly when some phase has an applicable method and no method applicable in the"
+        + " earliest such phase is strictly more specific than every other one applicable there.",
+        Promise04Pick::ambiguousInTheEarliest);
+    Check.sentence("It answers NO_MATCH exactly when no method is applicable in any phase.", Promise04Pick::noMatch);
+    Check.sentence("This includes the case of no stored methods", Promise04Pick::noStoredMethods);
+    Check.sentence("and the case of no stored method of that name.", Promise04Pick::noMethodOfThatName);
+    Check.sentence("lastPhase() answers the phase most recently set by a non-refused pick", Promise04Pick::mostRecentPhase);
+    Check.sentence("or 0 if there has been none.", Promise04Pick::noPickYet);
+    Check.sentence("It changes nothing.", () -> States.neverChanged("lastPhase()", OverloadPicker::lastPhase));
+    Check.sentence("No other method alters it.", Promise04Pick::noOtherMethodAltersIt);
     Check.end();
   }
 
+  /** Methods of name 0, each given by its params and its retFlags. */
   private static OverloadPicker with(int... paramsAndFlags) {
     OverloadPicker x = new OverloadPicker(16, 32);
     for (int i = 0; i < paramsAndFlags.length; i += 2) {
@@ -25,147 +40,223 @@ public final class Promise04Pick {
     return x;
   }
 
-  private static void refusesWrongCalls() {
-    OverloadPicker x = with(0x4, 4, 0xE, 30);
-    Check.picked(x, 0, 0xA, 0, 2);
-    for (int name : new int[] {Integer.MIN_VALUE, -1, 8, Integer.MAX_VALUE}) {
-      Check.picked(x, name, 0x4, REFUSED, 2);
+  private static void upToFourTypes() {
+    OverloadPicker x = with(0, 4, 0xE, 4, 0xEE, 4, 0xEEE, 4, 0xEEEE, 4);
+    Check.picked(x, 0, 0, 0, 1);
+    Check.picked(x, 0, 0x7, 1, 1);
+    Check.picked(x, 0, 0x87, 2, 1);
+    Check.picked(x, 0, 0x987, 3, 1);
+    Check.picked(x, 0, 0xA987, 4, 1);
+    Check.picked(x, 0, 0xBA987, REFUSED, 1);
+  }
+
+  private static void wrongName() {
+    OverloadPicker x = with(0x4, 4, 0x4, 20);
+    int[] lists = {0x5, 0x4, 0xA, 0x44};
+    for (int phase = 0; phase <= 3; phase++) {
+      x.pick(0, lists[phase]);
+      for (int name : new int[] {MIN, -8, -1, 8, 9, 16, MAX}) {
+        Check.picked(x, name, 0x4, REFUSED, phase);
+        Check.picked(x, name, 0, REFUSED, phase);
+      }
     }
-    int[] wrong = {-1, Integer.MIN_VALUE, 0xF, 0xF4, 0x40, 0x404, 0x4000, 0x44444, 0x10000, 0x40000004, 0x44444444};
-    for (int args : wrong) {
-      Check.picked(x, 0, args, REFUSED, 2);
+  }
+
+  private static void wrongArgs() {
+    OverloadPicker x = with(0x4, 4, 0x4, 20);
+    int[] lists = {0x5, 0x4, 0xA, 0x44};
+    int[] wrong = {
+      -1, MIN, MIN + 4, 0xF, 0xF4, 0x4F, 0x40, 0x404, 0x4000, 0x44444, 0x10000, 0x14444, 0x40000004, 0x44444444, MAX
+    };
+    for (int phase = 0; phase <= 3; phase++) {
+      x.pick(0, lists[phase]);
+      for (int args : wrong) {
+        Check.picked(x, 0, args, REFUSED, phase);
+        Check.picked(x, 8, args, REFUSED, phase);
+      }
     }
-    Check.picked(x, 0, 0x4444, 1, 3);
   }
 
-  private static void findsNothing() {
-    OverloadPicker x = new OverloadPicker(16, 32);
-    Check.picked(x, 0, 0, NO_MATCH, 0);
-    x.addMethod(0, 0x4, 4, 0);
-    Check.picked(x, 0, 0x4, 0, 1);
-    Check.picked(x, 1, 0x4, NO_MATCH, 0);
-    Check.picked(x, 7, 0, NO_MATCH, 0);
-    Check.picked(x, 0, 0x4, 0, 1);
-    Check.picked(x, 0, 0, NO_MATCH, 0);
-    Check.picked(x, 0, 0x44, NO_MATCH, 0);
-    Check.picked(x, 0, 0x5, NO_MATCH, 0);
-    Check.picked(x, 0, 0xE, NO_MATCH, 0);
-  }
-
-  private static void earliestPhaseDecides() {
-    OverloadPicker x = with(0x4, 20, 0xA, 4, 0x5, 4);
-    Check.picked(x, 0, 0x4, 2, 1);
-    Check.picked(x, 0, 0xA, 1, 1);
-    Check.picked(x, 0, 0x9, 2, 2);
-    Check.picked(x, 0, 0x44, 0, 3);
-    Check.picked(x, 0, 0, 0, 3);
-    Check.picked(with(0x54, 4, 0xAA, 4), 0, 0xA4, AMBIGUOUS, 2);
-    Check.picked(with(0x55, 4, 0xAA, 4, 0xEA, 4), 0, 0xA4, AMBIGUOUS, 2);
-    Check.picked(with(0, 4, 0x4, 20), 0, 0, 0, 1);
-  }
-
-  private static void mostSpecificWins() {
-    Check.picked(with(0x5, 4, 0x4, 4, 0x2, 4), 0, 0x1, 2, 1);
-    Check.picked(with(0x2, 4, 0x4, 4, 0x5, 4), 0, 0x1, 0, 1);
-    Check.picked(with(0xE, 4, 0xD, 4, 0xA, 4), 0, 0x4, 2, 2);
-    Check.picked(with(0xE, 4, 0xD, 4), 0, 0xA, 1, 1);
-    Check.picked(with(0x55, 4, 0x45, 4, 0x54, 4, 0x44, 4), 0, 0x44, 3, 1);
-    Check.picked(with(0x5555, 4, 0x4555, 4), 0, 0x4444, 1, 1);
-    Check.picked(with(0x45, 4, 0xA4, 4), 0, 0x94, 0, 2);
-    // Boxing makes an argument fit, but no parameter more specific: long and Integer stay apart.
-    Check.picked(with(0x5A, 4, 0xE5, 4), 0, 0x44, AMBIGUOUS, 2);
-  }
-
-  private static void needsOneThatBeatsAll() {
-    Check.picked(with(0x54, 4, 0x45, 4), 0, 0x44, AMBIGUOUS, 1);
-    // The third loses to both of the others, but neither of those beats the other.
-    Check.picked(with(0x54, 4, 0x45, 4, 0x55, 4), 0, 0x44, AMBIGUOUS, 1);
-    // The last is as specific as the second alone.
-    Check.picked(with(0x545, 4, 0x555, 4, 0x554, 4), 0, 0x444, AMBIGUOUS, 1);
-    Check.picked(with(0xD, 4, 0x5, 4), 0, 0x4, 1, 1);
-    Check.picked(with(0xDD, 4, 0x55, 4), 0, 0xA4, AMBIGUOUS, 2);
-  }
-
-  private static void variableArity() {
-    OverloadPicker x = with(0x54, 20);
-    Check.picked(x, 0, 0, NO_MATCH, 0);
-    Check.picked(x, 0, 0x4, 0, 3);
-    Check.picked(x, 0, 0x54, 0, 3);
-    Check.picked(x, 0, 0x4A4A, 0, 3);
-    Check.picked(x, 0, 0xBBBA, 0, 3);
-    Check.picked(x, 0, 0x6444, NO_MATCH, 0);
-    Check.picked(x, 0, 0x5, NO_MATCH, 0);
-    OverloadPicker y = with(0x4321, 20);
-    Check.picked(y, 0, 0x21, NO_MATCH, 0);
-    Check.picked(y, 0, 0x321, 0, 3);
-    Check.picked(y, 0, 0x4321, 0, 3);
-    Check.picked(y, 0, 0x5321, NO_MATCH, 0);
-    OverloadPicker z = with(0xE, 30);
-    Check.picked(z, 0, 0, 0, 3);
-    Check.picked(z, 0, 0x6E1D, 0, 3);
-  }
-
-  private static void variableAritySpecificity() {
-    // Without an argument the element types alone decide.
-    Check.picked(with(0x5, 20, 0x4, 20), 0, 0, 1, 3);
-    Check.picked(with(0x4, 20, 0x6, 20), 0, 0, AMBIGUOUS, 3);
-    // One place beyond the arguments counts too.
-    Check.picked(with(0x54, 20, 0x44, 20), 0, 0x4, 1, 3);
-    Check.picked(with(0x54, 20, 0x45, 20), 0, 0x4, AMBIGUOUS, 3);
-    Check.picked(with(0x64, 20, 0x5, 20), 0, 0x4, AMBIGUOUS, 3);
-    Check.picked(with(0x4444, 20, 0x5444, 20), 0, 0x444, 0, 3);
-    Check.picked(with(0x5444, 20, 0x4, 20), 0, 0x4444, 1, 3);
-    // But not two: the third parameter of a method that needs more arguments is not looked at.
-    Check.picked(with(0x4, 20, 0x65, 20), 0, 0x4, AMBIGUOUS, 3);
-    Check.picked(with(0x65, 20, 0x4, 20, 0x644, 20), 0, 0, 1, 3);
-  }
-
-  private static void equalPlacesAreAmbiguous() {
-    Check.picked(with(0x4, 20, 0x44, 20), 0, 0x4, AMBIGUOUS, 3);
-    Check.picked(with(0x4, 20, 0x44, 20), 0, 0x444, AMBIGUOUS, 3);
-    Check.picked(with(0x4, 20, 0x44, 20), 0, 0, 0, 3);
-    Check.picked(with(0x5, 20, 0x55, 20, 0x4, 20), 0, 0x4, 2, 3);
-  }
-
-  private static void looksThroughAFullTable() {
+  private static void allMethodsOfNow() {
     OverloadPicker x = new OverloadPicker(16, 32);
     for (int type = 1; type <= 14; type++) {
+      Check.picked(x, 0, 0x44, NO_MATCH, 0);
       x.addMethod(0, type, 4, 0);
+      Check.picked(x, 0, type, type - 1, 1);
     }
     x.addMethod(0, 0xE, 20, 0);
-    x.addMethod(7, 0xEEEE, 4, 0);
+    Check.picked(x, 0, 0x44, 14, 3);
+    x.addMethod(0, 0xEE, 4, 0);
+    Check.picked(x, 0, 0x44, 15, 2);
     for (int type = 1; type <= 14; type++) {
       Check.picked(x, 0, type, type - 1, 1);
     }
-    Check.picked(x, 0, 0x44, 14, 3);
-    Check.picked(x, 7, 0xEEEE, 15, 1);
-    Check.picked(x, 7, 0xE6E1, 15, 2);
-    Check.picked(x, 6, 0xEEEE, NO_MATCH, 0);
+  }
+
+  private static void onlyThatName() {
+    OverloadPicker x = new OverloadPicker(16, 32);
+    for (int name = 0; name < 8; name++) {
+      x.addMethod(name, 0x5, 4, 0);
+      x.addMethod(name, name % 2 == 0 ? 0x4 : 0x6, 4, 0);
+    }
+    for (int name = 0; name < 8; name++) {
+      Check.picked(x, name, 0x4, name % 2 == 0 ? 2 * name + 1 : 2 * name, 1);
+    }
+  }
+
+  private static void answersTheId() {
+    OverloadPicker x = with(0x6, 4, 0xA, 4, 0x44, 20);
+    Check.picked(x, 0, 0x6, 0, 1);
+    Check.picked(x, 0, 0x4, 1, 2);
+    Check.picked(x, 0, 0x44, 2, 3);
+  }
+
+  private static void noMatchOrAmbiguous() {
+    OverloadPicker x = with(0x54, 4, 0x45, 4);
+    Check.picked(x, 0, 0x66, NO_MATCH, 0);
+    Check.picked(x, 0, 0x44, AMBIGUOUS, 1);
+    Check.picked(x, 0, 0xAA, AMBIGUOUS, 2);
+  }
+
+  private static void setsLastPhase() {
+    OverloadPicker x = with(0x54, 4, 0x45, 4, 0xB, 20, 0xBB, 20);
+    int[] lists = {0x6, 0x55, 0x54, 0x44, 0x5A, 0xA4, 0, 0xB, 0xBBB};
+    int[] answers = {NO_MATCH, AMBIGUOUS, 0, AMBIGUOUS, 0, AMBIGUOUS, 2, AMBIGUOUS, AMBIGUOUS};
+    int[] phases = {0, 3, 1, 1, 2, 2, 3, 3, 3};
+    // Each after each, so that none rests on what stood there before.
+    for (int before = 0; before < lists.length; before++) {
+      for (int i = 0; i < lists.length; i++) {
+        x.pick(0, lists[before]);
+        Check.picked(x, 0, lists[i], answers[i], phases[i]);
+      }
+    }
   }
 
   private static void touchesNothingElse() {
-    OverloadPicker x = with(0x4, 4, 0x5, 4);
+    int[] lists = {0x4, 0xA, 0x44, 0, 0x5, 0x404};
+    States.all().forEach((name, state) -> {
+      for (int list : lists) {
+        for (int method = 0; method <= 8; method += 2) {
+          OverloadPicker used = state.get();
+          used.pick(method, list);
+          States.sameButLastPhase("pick(" + method + ", " + list + ") when " + name, used, state.get());
+        }
+      }
+    });
+    OverloadPicker x = States.resolved();
+    Check.picked(x, 0, 0x4, 0, 1);
+    Check.node(x, 0, OverloadPicker.OK, 1, 14, 3, 65533L);
+  }
+
+  private static void ambiguousInTheEarliest() {
+    // One method in phase 1 settles what phases 2 and 3 could not.
+    Check.picked(with(0x44, 4, 0xEA, 4, 0xAE, 4), 0, 0x44, 0, 1);
+    Check.picked(with(0x4, 4, 0x4, 20, 0x44, 20), 0, 0x4, 0, 1);
+    Check.picked(with(0xE, 4, 0x4, 20, 0x44, 20), 0, 0x4, 0, 2);
+    // And one method in phase 2 or 3 does not settle what phase 1 could not.
+    Check.picked(with(0x54, 4, 0x45, 4, 0xAA, 4, 0x44, 20), 0, 0x44, AMBIGUOUS, 1);
+    Check.picked(with(0x5E, 4, 0xE5, 4, 0x44, 20), 0, 0x44, AMBIGUOUS, 2);
+    Check.picked(with(0x4, 20, 0x44, 20), 0, 0x44, AMBIGUOUS, 3);
+  }
+
+  private static void noMatch() {
+    OverloadPicker x = with(0x44, 4, 0x644, 20);
+    Check.picked(x, 0, 0x44, 0, 1);
+    Check.picked(x, 0, 0, NO_MATCH, 0);
+    Check.picked(x, 0, 0x4, NO_MATCH, 0);
+    Check.picked(x, 0, 0x54, NO_MATCH, 0);
+    Check.picked(x, 0, 0x444, NO_MATCH, 0);
+    Check.picked(x, 0, 0x6644, 1, 3);
+    Check.picked(x, 0, 0x4644, NO_MATCH, 0);
+  }
+
+  private static void noStoredMethods() {
+    OverloadPicker x = new OverloadPicker(2, 4);
+    for (int name = 0; name < 8; name++) {
+      for (int list : new int[] {0, 0x1, 0xE, 0x44, 0xEEEE}) {
+        Check.picked(x, name, list, NO_MATCH, 0);
+      }
+    }
+  }
+
+  private static void noMethodOfThatName() {
+    OverloadPicker x = new OverloadPicker(16, 32);
+    x.addMethod(3, 0, 4, 0);
+    x.addMethod(3, 0xE, 20, 0);
+    for (int name = 0; name < 8; name++) {
+      x.pick(3, 0x4);
+      Check.picked(x, name, 0, name == 3 ? 0 : NO_MATCH, name == 3 ? 1 : 0);
+      x.pick(3, 0x4);
+      Check.picked(x, name, 0xE, name == 3 ? 1 : NO_MATCH, name == 3 ? 3 : 0);
+    }
+  }
+
+  private static void mostRecentPhase() {
+    OverloadPicker x = with(0x4, 4, 0x4, 20);
+    int[] lists = {0x4, 0xA, 0x44, 0x6, 0xA, 0x4, 0x6, 0x44};
+    int[] phases = {1, 2, 3, 0, 2, 1, 0, 3};
+    for (int i = 0; i < lists.length; i++) {
+      x.pick(0, lists[i]);
+      Check.due("lastPhase()", x.lastPhase(), phases[i]);
+      x.pick(-1, 0x4);
+      x.pick(0, -1);
+      Check.due("lastPhase() after refused picks", x.lastPhase(), phases[i]);
+    }
+  }
+
+  private static void noPickYet() {
+    OverloadPicker x = with(0x4, 4, 0x4, 20);
+    Check.due("lastPhase()", x.lastPhase(), 0);
+    x.pick(8, 0x4);
+    x.pick(0, 0x44444);
+    Check.due("lastPhase() after refused picks", x.lastPhase(), 0);
     x.addCall(0, 1);
-    x.addLiteral(4, 6);
+    x.addLiteral(4, 1);
     x.resolve();
     Check.due("lastPhase() after resolve()", x.lastPhase(), 0);
-    Check.picked(x, 0, 0xA, 0, 2);
-    Check.picked(x, 1, 0xA, NO_MATCH, 0);
-    Check.picked(x, 9, 0xA, REFUSED, 0);
-    Check.node(x, 0, OverloadPicker.OK, 0, 4, 1, 6L);
-    Check.node(x, 1, OverloadPicker.OK, -1, 4, 0, 6L);
-    Check.program(x, 2, 0);
-    Check.due("methodCount()", x.methodCount(), 2);
-    // No other call alters the last phase.
-    Check.picked(x, 0, 0x4, 0, 1);
-    x.addMethod(0, 0x6, 4, 0);
-    x.resolve();
-    x.clearProgram();
-    x.addLiteral(6, 0);
-    x.clearProgram();
-    x.addCall(0, 1);
-    x.addLiteral(10, 0);
-    x.resolve();
-    Check.due("lastPhase()", x.lastPhase(), 1);
+  }
+
+  private static void noOtherMethodAltersIt() {
+    int[] lists = {0x5, 0x4, 0xA, 0x44};
+    for (int phase = 0; phase <= 3; phase++) {
+      OverloadPicker x = with(0x4, 4, 0x4, 20);
+      x.pick(0, lists[phase]);
+      for (int call = 0; call < 30; call++) {
+        otherCall(x, call);
+        Check.due("lastPhase() after call no. " + call, x.lastPhase(), phase);
+      }
+    }
+  }
+
+  /** A program with a node of each phase and one of none, and every call that is not pick, refused ones too. */
+  private static void otherCall(OverloadPicker x, int call) {
+    int[] argc = {4, 1, -1, 1, -2, 2, -1, -1, 1, -3};
+    if (call < argc.length) {
+      int kind = argc[call];
+      Check.due("node", kind < 0 ? x.addLiteral(new int[] {4, 10, 6}[-kind - 1], 1) : x.addCall(0, kind), call);
+      return;
+    }
+    switch (call) {
+      case 10: Check.due("resolve()", x.resolve(), OverloadPicker.ARG_ERROR); break;
+      case 11: Check.due("nodePhase(1)", x.nodePhase(1), 1); break;
+      case 12: Check.due("nodePhase(3)", x.nodePhase(3), 2); break;
+      case 13: Check.due("nodePhase(5)", x.nodePhase(5), 3); break;
+      case 14: Check.due("nodePhase(8)", x.nodePhase(8), 0); break;
+      case 15: x.nodeStatus(0); break;
+      case 16: x.nodeMethod(0); break;
+      case 17: x.nodeType(0); break;
+      case 18: x.nodeValue(0); break;
+      case 19: x.convertible(4, 10, 2); break;
+      case 20: x.addMethod(0, 0x4, 4, 0); break;
+      case 21: x.addMethod(0, 0x6, 4, 0); break;
+      case 22: x.resolve(); break;
+      case 23: x.addLiteral(4, 1); break;
+      case 24: x.addCall(0, 1); break;
+      case 25: x.methodCount(); break;
+      case 26: x.nodeCount(); break;
+      case 27: x.pending(); break;
+      case 28: x.clearProgram(); break;
+      default: x.resolve(); break;
+    }
   }
 }

@@ -1,19 +1,33 @@
-/** Counts and prints the answers that are not as due; a boolean counts 1 or 0, as in the shared tests. */
+/** Runs the tests of the document's sentences and prints every answer that is not as due; a boolean counts 1 or 0. */
 final class Check {
+  private static String sentence = "";
+  private static int sentences = 0;
   private static int wrong = 0;
 
   private Check() {
   }
 
+  /** The words are the document's own, so that a wrong answer names the sentence that it breaks. */
+  static void sentence(String words, Runnable test) {
+    sentence = "\"" + words + "\": ";
+    sentences++;
+    test.run();
+    sentence = "";
+  }
+
   static void due(String call, long got, long want) {
     if (got != want) {
       wrong++;
-      System.out.println(call + " answered " + got + ", due is " + want);
+      System.out.println(sentence + call + " answered " + got + ", due is " + want);
     }
   }
 
   static void due(String call, boolean got, boolean want) {
     due(call, got ? 1L : 0L, want ? 1L : 0L);
+  }
+
+  static void refused(String call, int got) {
+    due(call, got, OverloadPicker.REFUSED);
   }
 
   /** The five results of one node. */
@@ -29,6 +43,10 @@ final class Check {
     node(x, i, OverloadPicker.UNRESOLVED, -1, 0, 0, 0L);
   }
 
+  static void absent(OverloadPicker x, int i) {
+    node(x, i, OverloadPicker.REFUSED, -1, 0, 0, 0L);
+  }
+
   static void program(OverloadPicker x, int nodeCount, int pending) {
     due("nodeCount()", x.nodeCount(), nodeCount);
     due("pending()", x.pending(), pending);
@@ -41,7 +59,7 @@ final class Check {
   }
 
   static void end() {
-    System.out.println(wrong == 0 ? "all answers are as due" : wrong + " answers are not as due");
+    System.out.println(wrong + " answers not as due" + (sentences > 0 ? ", " + sentences + " sentences looked at" : ""));
     if (wrong != 0) {
       System.exit(1);
     }
