@@ -110,17 +110,22 @@ final class States {
     OverloadPicker used = state.get();
     use.accept(used);
     same(call, used, state.get());
+    // On an object of its own, before any reader could wrongly set it on both sides.
+    OverloadPicker again = state.get();
+    use.accept(again);
+    Check.due("lastPhase() after " + call, again.lastPhase(), state.get().lastPhase());
   }
 
   /** Uses both objects up. */
   static void same(String call, OverloadPicker used, OverloadPicker kept) {
-    Check.due("lastPhase() after " + call, used.lastPhase(), kept.lastPhase());
-    sameButLastPhase(call, used, kept);
+    compare(call, future(used, true), future(kept, true));
   }
 
   static void sameButLastPhase(String call, OverloadPicker used, OverloadPicker kept) {
-    List<Long> got = future(used);
-    List<Long> want = future(kept);
+    compare(call, future(used, false), future(kept, false));
+  }
+
+  private static void compare(String call, List<Long> got, List<Long> want) {
     int first = 0;
     while (first < got.size() && got.get(first).equals(want.get(first))) {
       first++;
@@ -129,9 +134,12 @@ final class States {
   }
 
   /** What the calls from here on answer; each run of it makes the same number of calls. */
-  private static List<Long> future(OverloadPicker x) {
+  private static List<Long> future(OverloadPicker x, boolean withLastPhase) {
     List<Long> answers = new ArrayList<>();
     lookAt(x, answers);
+    if (withLastPhase) {
+      answers.add((long) x.lastPhase());
+    }
     answers.add((long) x.resolve());
     lookAt(x, answers);
     for (int i = 0; i < 33; i++) {
@@ -155,17 +163,19 @@ final class States {
     return answers;
   }
 
+  /** The results come first: a reader that wrongly ended them would otherwise do so on both sides. */
   private static void lookAt(OverloadPicker x, List<Long> answers) {
-    answers.add((long) x.methodCount());
-    answers.add((long) x.nodeCount());
-    answers.add((long) x.pending());
-    for (int i = -1; i < 34; i++) {
+    for (int i = 0; i < 34; i++) {
       answers.add((long) x.nodeStatus(i));
       answers.add((long) x.nodeMethod(i));
       answers.add((long) x.nodeType(i));
       answers.add((long) x.nodePhase(i));
       answers.add(x.nodeValue(i));
     }
+    answers.add((long) x.nodeStatus(-1));
+    answers.add((long) x.methodCount());
+    answers.add((long) x.nodeCount());
+    answers.add((long) x.pending());
   }
 
   private static void pickAll(OverloadPicker x, int name, List<Long> answers) {
