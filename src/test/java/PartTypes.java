@@ -10,6 +10,10 @@ public final class PartTypes {
     Check.sentence("BOX of a primitive p (1..6) is p+6.", PartTypes::boxes);
     Check.sentence("UNBOX of r in 7..12 is r-6.", PartTypes::unboxes);
     Check.sentence("Types 13 and 14 have no unbox.", PartTypes::numberAndObjectStayBoxed);
+    Check.sentence("S == T", PartTypes::everyTypeOfItself);
+    Check.sentence("(S,T) is one of (1,2), (1,4), (1,5), (2,4), (2,5), (3,4), (3,5), (4,5)", PartTypes::widenings);
+    Check.sentence("S is 7, 8, 10 or 11 and T == 13", PartTypes::numbers);
+    Check.sentence("S is in 7..13 and T == 14.", PartTypes::objects);
     Check.sentence("Nothing else is a subtype.", PartTypes::nothingElseIsASubtype);
     Check.sentence("LOOSE-compatible(A,P): A <: P; or A in 1..6 and BOX(A) <: P; or A in 7..12 and UNBOX(A) <: P.",
         PartTypes::looseIsOneConversion);
@@ -104,6 +108,46 @@ public final class PartTypes {
     phase(14, 13, NO_MATCH);
     phase(13, 14, 1);
     phase(14, 14, 1);
+  }
+
+  private static void everyTypeOfItself() {
+    for (int type = 1; type <= 14; type++) {
+      phase(type, type, 1);
+    }
+  }
+
+  private static void widenings() {
+    int[][] pairs = {{1, 2}, {1, 4}, {1, 5}, {2, 4}, {2, 5}, {3, 4}, {3, 5}, {4, 5}};
+    for (int[] pair : pairs) {
+      phase(pair[0], pair[1], 1);
+      phase(pair[1], pair[0], NO_MATCH);
+    }
+    // The neighbours of the list: byte and short are no chars, a char is no short, a boolean no number.
+    int[][] others = {{1, 3}, {2, 3}, {3, 2}, {3, 1}, {4, 6}, {6, 4}, {6, 5}, {5, 6}};
+    for (int[] pair : others) {
+      phase(pair[0], pair[1], NO_MATCH);
+    }
+  }
+
+  private static void numbers() {
+    for (int type = 7; type <= 12; type++) {
+      boolean number = type != 9 && type != 12;
+      phase(type, 13, number ? 1 : NO_MATCH);
+      phase(13, type, NO_MATCH);
+    }
+    phase(6, 13, NO_MATCH);
+    phase(14, 13, NO_MATCH);
+  }
+
+  private static void objects() {
+    for (int type = 7; type <= 13; type++) {
+      phase(type, 14, 1);
+      phase(14, type, NO_MATCH);
+    }
+    // A primitive is an Object only once it is boxed.
+    for (int type = 1; type <= 6; type++) {
+      phase(type, 14, 2);
+    }
   }
 
   private static void nothingElseIsASubtype() {

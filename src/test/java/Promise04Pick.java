@@ -18,6 +18,9 @@ public final class Promise04Pick {
         Promise04Pick::setsLastPhase);
     Check.sentence("It touches nothing else. The methods and the program stay as they were, including every node result and"
         + " whether the program is resolved.", Promise04Pick::touchesNothingElse);
+    Check.sentence("If it answers an id m >= 0, then all of the following hold with p = lastPhase(): m is applicable in phase p;"
+        + " no method is applicable in any phase before p; and for every other method m2 applicable in phase p, m is strictly"
+        + " more specific than m2.", Promise04Pick::agreesWithPairs);
     Check.sentence("It answers AMBIGUOUS exactly when some phase has an applicable method and no method applicable in the"
         + " earliest such phase is strictly more specific than every other one applicable there.",
         Promise04Pick::ambiguousInTheEarliest);
@@ -146,6 +149,58 @@ public final class Promise04Pick {
     OverloadPicker x = States.resolved();
     Check.picked(x, 0, 0x4, 0, 1);
     Check.node(x, 0, OverloadPicker.OK, 1, 14, 3, 65533L);
+  }
+
+  /** A table of sixteen answers as its methods do alone and in pairs, whatever the call. */
+  private static void agreesWithPairs() {
+    int[] methods = {
+      0x4, 4, 0x5, 4, 0xA, 4, 0xD, 4, 0xE, 4, 0x44, 4, 0x45, 4, 0x54, 4, 0xAA, 4, 0x5E, 4, 0xEE, 4,
+      0x4, 20, 0x5, 20, 0xE, 20, 0x44, 20, 0xA4, 20
+    };
+    int count = methods.length / 2;
+    OverloadPicker all = with(methods);
+    // Pairs of a method with itself hold it alone: the second is refused.
+    OverloadPicker[][] pairs = new OverloadPicker[count][count];
+    for (int m = 0; m < count; m++) {
+      for (int m2 = 0; m2 < count; m2++) {
+        pairs[m][m2] = new OverloadPicker(2, 4);
+        pairs[m][m2].addMethod(0, methods[2 * m], methods[2 * m + 1], 0);
+        pairs[m][m2].addMethod(0, methods[2 * m2], methods[2 * m2 + 1], 0);
+      }
+    }
+    for (int list = 0; list <= 0xEEE; list++) {
+      // Every list of up to two types, and those of three that begin with an int.
+      if (all.pick(0, list) != REFUSED && (list < 0x100 || (list & 15) == 4)) {
+        Check.picked(all, 0, list, dueByPairs(pairs, list), phaseByPairs(pairs, list));
+      }
+    }
+  }
+
+  private static int lonePhase(OverloadPicker[][] pairs, int m, int list) {
+    return pairs[m][m].pick(0, list) == NO_MATCH ? 4 : pairs[m][m].lastPhase();
+  }
+
+  private static int phaseByPairs(OverloadPicker[][] pairs, int list) {
+    int earliest = 4;
+    for (int m = 0; m < pairs.length; m++) {
+      earliest = Math.min(earliest, lonePhase(pairs, m, list));
+    }
+    return earliest % 4;
+  }
+
+  private static int dueByPairs(OverloadPicker[][] pairs, int list) {
+    int phase = phaseByPairs(pairs, list);
+    for (int m = 0; m < pairs.length; m++) {
+      boolean best = lonePhase(pairs, m, list) == phase;
+      for (int m2 = 0; m2 < pairs.length; m2++) {
+        boolean rival = m2 != m && lonePhase(pairs, m2, list) == phase;
+        best = best && (!rival || pairs[m][m2].pick(0, list) == 0);
+      }
+      if (best) {
+        return m;
+      }
+    }
+    return phase == 0 ? NO_MATCH : AMBIGUOUS;
   }
 
   private static void ambiguousInTheEarliest() {
